@@ -64,6 +64,13 @@ public final class JudgingActsTapesTest {
         x.clear();
         d.due("up to the end", x.judge(0, 56), -5);
         d.due("one too few", x.judge(0, 57), 103);
+        Due.yard(x, "wide 3");
+        Due.setAll(x, 0, 8);
+        d.due("the last square", x.judge(0, 0), 8);
+        x.item(0, 8, 1);
+        d.due("all nine", x.judge(0, 0), -5);
+        d.due("the first of nine", x.judge(0, 8), 0);
+        d.due("eight", x.judge(0, 52), 108);
     }
 
     private static NoneSees full() {
@@ -145,6 +152,14 @@ public final class JudgingActsTapesTest {
         d.due("it holds", x.told(4), 15);
         d.due("undone", x.undo(), 2);
         d.due("the first yard holds", x.told(4), 48);
+        NoneSees z = new NoneSees();
+        z.image();
+        z.plan(6, 1);
+        z.row(0, 2, 0);
+        d.due("no plans", z.undo(), 0);
+        z.plan(6, 8);
+        d.due("another v", z.of(0, 1), 8);
+        d.due("its own row", z.row(0, 2, 1), 1);
         NoneSees y = new NoneSees();
         y.image();
         Due.yard(y, "wide 2");
@@ -306,6 +321,12 @@ public final class JudgingActsTapesTest {
         d.due("still there", x.read(3, 1), 0);
         d.due("an empty row", x.tape(3, INTS, 0), 1);
         d.due("it is a row", x.item(3, 0, 0), -13);
+        x.item(1, 0, 5);
+        x.item(4, 59, 5);
+        x.tape(0, INTS, 60);
+        x.tape(5, INTS, 60);
+        d.due("the one behind stays", x.read(1, 0), 5);
+        d.due("the one before stays", x.read(4, 59), 1);
         d.due("nothing, n below 0", x.tape(3, -1, -7), 1);
         d.due("nothing", x.item(3, 0, 0), -11);
         d.due("nothing, n above 60", x.tape(3, -1, 61), 1);

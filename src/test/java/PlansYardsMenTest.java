@@ -211,6 +211,8 @@ public final class PlansYardsMenTest {
         fault("bar x!1", 5);
         fault("hole (((((x=1)))))", 9);
         fault("hole !!!!!x=1", 9);
+        fault("bar (((((x=1)))))", 8);
+        fault("bar x=1|!!!!!x=1", 12);
         fault("hole !(!(!x=1))", 9);
         fault("hole (!(!(x=1)))", 9);
         fault("hole (x=1|((((y=1))))", 13);

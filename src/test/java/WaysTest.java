@@ -124,6 +124,8 @@ public final class WaysTest {
         x.clear();
         Due.setAll(x, Due.MAN, 3, 7, 11, 15);
         d.due("the last", x.after(Due.MAN, 0), -5);
+        d.due("ways are counted as ever", x.ways(Due.QUEEN, -1), 2);
+        d.due("from the first on", x.ways(Due.QUEEN, 0), 1);
         Due.yard(x, "wide 2;bar n=1");
         Due.setAll(x, Due.MAN, 0, 2);
         d.due("x of row 0", x.after(Due.MAN, 0), 0);
@@ -200,9 +202,13 @@ public final class WaysTest {
         d.due("the set", x.hold(Due.MAN, 1), 8);
         Due.yard(x, "wide 2;hole w=2");
         d.due("none can be set", x.hold(Due.MAN, 0), -5);
-        d.due("no set", x.hold(Due.MAN, 1), -5);
-        Due.yard(x, "wide 3");
-        d.due("king in the middle", x.hold(Due.KING, 1), 16);
+        Due.yard(x, "wide 3;hole n>3");
+        d.due("four do", x.hold(Due.MAN, 0), 4);
+        NoneSees y = kinds("wide 3;hole n>4", 0);
+        d.due("five are too many", y.hold(Due.MAN, 0), -5);
+        d.due("no set", y.hold(Due.MAN, 1), -5);
+        Due.yard(y, "wide 3");
+        d.due("king in the middle", y.hold(Due.KING, 1), 16);
     }
 
     private static void more() {
@@ -250,6 +256,24 @@ public final class WaysTest {
         d.due("no set", y.right(1), -5);
         y.take(23);
         d.due("four", y.right(1), Due.bits(2, 7, 12, 17));
+        threeMenInRows(y);
+    }
+
+    /** In each of a few rows a man in the middle sees the one beside him and is seen by the other. */
+    private static void threeMenInRows(NoneSees y) {
+        y.clear();
+        for (int row = 0; row < 4; row++) {
+            Due.setAll(y, 0, row * 5 + 1, row * 5 + 2);
+            Due.setAll(y, 1, row * 5 + 3);
+            d.due("middles " + row, y.right(0), row + 1);
+        }
+        d.due("the middles", y.right(1), Due.bits(2, 7, 12, 17));
+        y.clear();
+        // a ring of five: three of them must go, the least three by whom each pair is broken
+        Due.yard(y, "wide 5;round");
+        Due.setAll(y, 0, 5, 6, 7, 8, 9);
+        d.due("a ring", y.right(0), 3);
+        d.due("the least of the ring", y.right(1), Due.bits(5, 6, 8));
     }
 
     private static void game() {
