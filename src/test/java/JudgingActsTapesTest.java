@@ -369,6 +369,7 @@ public final class JudgingActsTapesTest {
         d.due("its neighbours have nothing", x.read(1, 0), NoneSees.NO);
         x.tape(2, -1, 0);
         d.due("nothing again", x.read(2, 1), NoneSees.NO);
+        d.due("nothing at 0", x.read(2, 0), NoneSees.NO);
     }
 
     private static void isRow(NoneSees x, int tape, int... items) {

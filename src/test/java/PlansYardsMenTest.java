@@ -217,6 +217,8 @@ public final class PlansYardsMenTest {
         fault("hole (!(!(x=1)))", 9);
         fault("hole (x=1|((((y=1))))", 13);
         fault("wide " + (char) 0, 5);
+        fault("flat" + (char) 0, 4);
+        fault("hole x=1" + (char) 0 + "flat", 8);
         for (String text : new String[] {"wide 3", "wide 33", "round", "flat", "hole ((((x=1))))", "hole !!!!x=1",
             "hole !(!(x=1))", "bar (((x=1)))&((((x=1))))|!!!!y<22", "bar !x=1&!!!!x=1", "bar (!!!x=1|(((y=1))))"}) {
             fault(text, -1);

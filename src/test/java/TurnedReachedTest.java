@@ -103,6 +103,14 @@ public final class TurnedReachedTest {
         x = men("wide 4;round", 0);
         aims(x, 15);
         d.due("not round", x.reach(), 6);
+        aims(x, 3);
+        d.due("along the row", x.reach(), 3);
+        x.clear();
+        Due.setAll(x, 0, 3);
+        aims(x, 4);
+        d.due("from a row's end to the next one's", x.reach(), 4);
+        aims(x, 12);
+        d.due("across", x.reach(), 6);
         x = men("wide 3;bar n=1|n=4", 0);
         aims(x, 2);
         d.due("past barred squares", x.reach(), 6);

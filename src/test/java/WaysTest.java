@@ -171,6 +171,9 @@ public final class WaysTest {
             y.row(0, way, 0);
         }
         d.due("rings of five", y.most(0), 10);
+        NoneSees z = Due.on("wide 5;round");
+        z.plan(Due.HORSE, 9);
+        d.due("horses go round", z.most(0), 5);
     }
 
     private static void hold() {
