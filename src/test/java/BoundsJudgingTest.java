@@ -18,6 +18,7 @@ public final class BoundsJudgingTest {
         undoState();
         undoAll();
         undoOfFull();
+        undoToldNumbers();
         undoYard();
         undoLeavesTheRest();
         actNone();
@@ -237,6 +238,7 @@ public final class BoundsJudgingTest {
         }
         d.due("a plan anew", x.plan(6, 3), 0);
         d.due("with a row of its own", x.row(0, 2, 1), 1);
+        d.due("its own v", x.of(0, 1), 3);
         d.due("nobody of it", x.of(0, 2), 0);
     }
 
@@ -283,6 +285,28 @@ public final class BoundsJudgingTest {
         d.due("its last square", x.looked(), 11);
         x.take(24);
         d.due("its first square", x.looked(), 0);
+    }
+
+    private static void undoToldNumbers() {
+        d.says(33, "All is as THE IMAGE");
+        NoneSees x = Due.with("wide 2", 10, 0);
+        x.see(0, 1);
+        x.see(3, 0);
+        x.image();
+        d.due("none sees 0 and not 3", x.rubbed(0), 0);
+        x.see(-1, 0);
+        x.see(0, 1);
+        x.see(3, 1);
+        d.due("who sees 0 and 3", x.rubbed(0), Due.bits(1, 2));
+        x.undo();
+        d.due("as it was told", x.rubbed(0), 0);
+        x.see(-1, 0);
+        x.undo();
+        d.due("count(3)", x.count(3), 2);
+        d.due("as it was told", x.rubbed(0), 0);
+        x.see(-1, 0);
+        x.see(3, 0);
+        d.due("anew", x.rubbed(0), Due.bits(0, 3));
     }
 
     private static void undoYard() {
@@ -545,8 +569,8 @@ public final class BoundsJudgingTest {
     }
 
     private static void takenCast() {
-        d.says(36, "A PLAN taken for one of KIND k (0 .. 6), or one under that: its KIND. BAD: k; NOTHING: no such PLAN; "
-            + "CAST.");
+        d.says(36, "A PLAN taken for one of KIND k (0 .. 6), or one under that: its KIND. BAD: k; NOTHING: no such "
+            + "PLAN; CAST.");
         String[] is = {"0", "01", "02", "03", "014", "025", "036"};
         for (int kind = 0; kind < 7; kind++) {
             NoneSees x = Due.with("", kind * 10);

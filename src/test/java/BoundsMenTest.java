@@ -50,8 +50,8 @@ public final class BoundsMenTest {
     }
 
     private static void toldMany() {
-        d.says(7, "What 0 WIDE, 1 whether ROUND, 2 how many MEN, 3 HOLES, 4 BARRED squares, 5 squares with MEN (bits each), "
-            + "6 whether AT PEACE.");
+        d.says(7, "What 0 WIDE, 1 whether ROUND, 2 how many MEN, 3 HOLES, 4 BARRED squares, 5 squares with MEN "
+            + "(bits each), 6 whether AT PEACE.");
         NoneSees x = Due.with("wide 5", 0);
         d.due("the widest", x.told(0), 5);
         d.due("flat", x.told(1), 0);
@@ -414,7 +414,8 @@ public final class BoundsMenTest {
     }
 
     private static void seesHorseByV() {
-        d.says(11, "HORSE: as BISHOP, if v is 4 or less; else those that are 1 away along x and 2 along y, or 2 and 1.");
+        d.says(11, "HORSE: as BISHOP, if v is 4 or less; else those that are 1 away along x and 2 along y, or 2 and "
+            + "1.");
         for (int v = 0; v < 10; v++) {
             if (v <= 4) {
                 sees("wide 5", 50 + v, 12, "o...o", ".o.o.", ".....", ".o.o.", "o...o");
@@ -452,8 +453,8 @@ public final class BoundsMenTest {
     }
 
     private static void seesTold() {
-        d.says(11, "TOLD: as KING, but of the eight ways those alone (0: x 1 more, 1: y 1 more, 2: x 1 less, 3: y 1 less, "
-            + "4: both 1 more, 5: x 1 less and y 1 more, 6: both 1 less, 7: x 1 more and y 1 less)");
+        d.says(11, "TOLD: as KING, but of the eight ways those alone (0: x 1 more, 1: y 1 more, 2: x 1 less, 3: y 1 "
+            + "less, 4: both 1 more, 5: x 1 less and y 1 more, 6: both 1 less, 7: x 1 more and y 1 less)");
         int[] fromMiddle = {13, 17, 11, 7, 18, 16, 6, 8};
         int[] fromFirst = {1, 5, -1, -1, 6, -1, -1, -1};
         int[] fromLast = {-1, -1, 23, 19, -1, -1, 18, -1};

@@ -201,15 +201,16 @@ public final class BoundsTapesTest {
     }
 
     private static void itemLowestBits() {
-        d.says(39, "Item i of a TAPE becomes v (its lowest bits, as many as an item has; booleans: whether v is not 0): 1.");
+        d.says(39, "Item i of a TAPE becomes v (its lowest bits, as many as an item has; booleans: whether v is not "
+            + "0): 1.");
         long[] values = {0, 1, -1, 127, 128, 255, 256, -128, -129, 32767, 32768, 65535, 65536, -32768, -32769,
             2147483647L, 2147483648L, 4294967295L, 4294967296L, -2147483648L, -2147483649L, Long.MAX_VALUE,
             Long.MIN_VALUE, Long.MIN_VALUE + 1};
         long[] bytes = {0, 1, -1, 127, -128, -1, 0, -128, 127, -1, 0, -1, 0, 0, -1, -1, 0, -1, 0, 0, -1, -1, 0, 1};
         long[] shorts = {0, 1, -1, 127, 128, 255, 256, -128, -129, 32767, -32768, -1, 0, -32768, 32767, -1, 0, -1, 0, 0,
             -1, -1, 0, 1};
-        long[] ints = {0, 1, -1, 127, 128, 255, 256, -128, -129, 32767, 32768, 65535, 65536, -32768, -32769, 2147483647L,
-            -2147483648L, -1, 0, -2147483648L, 2147483647L, -1, 0, 1};
+        long[] ints = {0, 1, -1, 127, 128, 255, 256, -128, -129, 32767, 32768, 65535, 65536, -32768, -32769,
+            2147483647L, -2147483648L, -1, 0, -2147483648L, 2147483647L, -1, 0, 1};
         NoneSees x = new NoneSees();
         for (int sort = BYTES; sort <= LONGS; sort++) {
             x.tape(sort, sort, 1);

@@ -10,11 +10,13 @@ public final class BoundsWaysTest {
         worstOnce();
         worstLeast();
         worstBothWays();
+        worstAtTheEnds();
         waysNone();
         waysNoWay();
         waysMany();
         waysEmptyBoard();
         waysFirst();
+        waysOneSided();
         afterNone();
         afterNotOneInEach();
         afterNoneBehind();
@@ -24,21 +26,40 @@ public final class BoundsWaysTest {
         mostNone();
         mostBounds();
         mostEmptyBoard();
+        mostAtTheEnds();
         holdNone();
         holdOneToFour();
         holdNoSoMany();
         holdNoHole();
         holdLeast();
+        holdAtTheEnds();
         moreNone();
         moreBounds();
         rightNone();
         rightNoughtToFour();
         rightLeast();
+        rightOfTwoWhoSeeMany();
+        rightWithoutWhoIsLeast();
+        rightAtTheEnds();
         gameNone();
         gameNine();
         gameLost();
         gameFits();
+        gameAtTheEnds();
+        gameAnew();
         d.finish();
+    }
+
+    /** An object with a TOLD, whose ways are these alone. */
+    private static NoneSees told(String text, int... ways) {
+        NoneSees x = Due.with(text, 60, 0);
+        for (int way = 0; way < 8; way++) {
+            x.row(0, way, 0);
+        }
+        for (int way : ways) {
+            x.row(0, way, 1);
+        }
+        return x;
     }
 
     // ---- 13
@@ -104,6 +125,25 @@ public final class BoundsWaysTest {
         Due.setAll(x, 1, 24);
         Due.setAll(x, 0, 23);
         d.due("the least of both, though he sees none", x.worst(), 23);
+    }
+
+    private static void worstAtTheEnds() {
+        d.says(13, "the square of the MAN by whom most others are SEEN, or who SEE it");
+        NoneSees x = Due.with("wide 5", 0, 10);
+        Due.setAll(x, 1, 0, 24);
+        Due.setAll(x, 0, 4);
+        d.due("seen from the first and from the last", x.worst(), 4);
+        x.take(4);
+        Due.setAll(x, 0, 20);
+        d.due("seen from the first and from the last", x.worst(), 20);
+        Due.setAll(x, 0, 1);
+        d.due("the first sees two as well", x.worst(), 0);
+        x.take(1);
+        Due.setAll(x, 0, 23);
+        d.due("the last sees two as well", x.worst(), 20);
+        x.take(20);
+        Due.setAll(x, 0, 22);
+        d.due("the last alone sees two", x.worst(), 24);
     }
 
     // ---- 14
@@ -186,6 +226,17 @@ public final class BoundsWaysTest {
         x = Due.with("wide 5;bar s<8&x<4", 0);
         for (int row = 0; row < 5; row++) {
             d.due("the last x alone, row " + row, x.ways(0, row), 4);
+        }
+    }
+
+    private static void waysOneSided() {
+        d.says(14, "AT PEACE");
+        for (int way = 0; way < 8; way++) {
+            NoneSees x = told("wide 2", way);
+            boolean across = way == 1 || way == 3;
+            d.due("way " + way + ", how many", x.ways(0, -1), way == 0 || way == 2 ? 4 : across ? 2 : 3);
+            d.due("way " + way + ", row 0", x.ways(0, 0), 0);
+            d.due("way " + way + ", row 1", x.ways(0, 1), across ? 1 : 0);
         }
     }
 
@@ -332,6 +383,12 @@ public final class BoundsWaysTest {
         d.due("rooks in cells of their own", Due.with("wide 5;hole s=1|s=3|s=5|s=7", 10).most(0), 13);
         d.due("bishops of 5", Due.with("wide 5", 20).most(0), 8);
         d.due("queens of 3", Due.with("wide 3", 40).most(0), 2);
+        d.due("queens of 4", Due.with("wide 4", 40).most(0), 4);
+        d.due("queens of 5", Due.with("wide 5", 40).most(0), 5);
+        d.due("round kings of 5", Due.with("wide 5;round", 30).most(0), 5);
+        d.due("queens past a hole", Due.with("wide 5;hole n=7", 40).most(0), 5);
+        d.due("horses past a hole", Due.with("wide 4;hole n=12", 55).most(0), 8);
+        d.due("horses without two corners", Due.with("wide 5;bar n=0|n=24", 55).most(0), 12);
         d.due("horses of 5", Due.with("wide 5", 55).most(0), 13);
         d.due("horses of 4 are bishops", Due.with("wide 5", 54).most(0), 8);
         d.due("horses of 2", Due.with("wide 2", 55).most(0), 4);
@@ -351,6 +408,15 @@ public final class BoundsWaysTest {
         Due.setBits(x, 1, ALL_OF_5);
         d.due("men everywhere", x.most(0), 5);
         d.due("men everywhere", x.most(1), 25);
+    }
+
+    private static void mostAtTheEnds() {
+        d.says(16, "AT PEACE");
+        d.due("the first sees the second", told("wide 5;hole n>1", 0).most(0), 1);
+        d.due("the second does not see the first", told("wide 5;hole n>1", 1).most(0), 2);
+        d.due("the second sees the first", told("wide 5;hole n>1", 2).most(0), 1);
+        d.due("the last but one sees the last", told("wide 5;hole n<23", 0).most(0), 1);
+        d.due("the last sees the last but one", told("wide 5;hole n<23", 2).most(0), 1);
     }
 
     // ---- 17
@@ -426,6 +492,19 @@ public final class BoundsWaysTest {
         isHeld("wide 3", 10, 3, 7);
         isHeld("wide 4", 40, 2, Due.bits(5, 6));
         isHeld("wide 4;bar n=5", 40, 2, Due.bits(4, 7));
+    }
+
+    private static void holdAtTheEnds() {
+        d.says(17, "so that each square that is no HOLE has a MAN or is SEEN by one");
+        NoneSees x = told("wide 2", 0, 1, 4);
+        d.due("the first sees all, no other does", x.hold(0, 0), 1);
+        d.due("the first", x.hold(0, 1), 1);
+        x = told("wide 2", 2, 3, 6);
+        d.due("the last sees all, no other does", x.hold(0, 0), 1);
+        d.due("the last", x.hold(0, 1), 8);
+        x = told("wide 5;hole n<22", 2);
+        d.due("a row of three, from the last on", x.hold(0, 0), 2);
+        d.due("not from the first", x.hold(0, 1), Due.bits(22, 24));
     }
 
     // ---- 18
@@ -511,7 +590,7 @@ public final class BoundsWaysTest {
     }
 
     private static void rightLeast() {
-        d.says(19, "without whom all others are AT PEACE (-5: more); the set of their squares, of several the least as bits");
+        d.says(19, "(-5: more); the set of their squares, of several the least as bits");
         NoneSees x = Due.with("wide 5", 10, 0);
         Due.setAll(x, 0, 24);
         Due.setAll(x, 1, 4);
@@ -524,6 +603,48 @@ public final class BoundsWaysTest {
         x.clear();
         Due.setAll(x, 0, 1, 3, 21, 23);
         isRight(x, 2, Due.bits(3, 21));
+    }
+
+    private static void rightOfTwoWhoSeeMany() {
+        d.says(19, "the fewest MEN");
+        NoneSees x = Due.with("wide 5", 30, 0);
+        Due.setAll(x, 0, 6, 18);
+        Due.setAll(x, 1, 0, 2, 10, 24, 22, 14);
+        isRight(x, 2, Due.bits(6, 18));
+        Due.setAll(x, 1, 1, 23);
+        isRight(x, 2, Due.bits(6, 18));
+        x = Due.with("wide 5;round", 30, 0);
+        Due.setAll(x, 1, 0, 1, 2, 5, 6, 10, 11, 12);
+        isRight(x, 0, 0);
+        x.take(6);
+        Due.setAll(x, 0, 6);
+        isRight(x, 1, Due.bits(6));
+    }
+
+    private static void rightWithoutWhoIsLeast() {
+        d.says(19, "the fewest MEN");
+        // five kings in a line, of whom the one in the middle is on the least square: he stays
+        NoneSees x = Due.with("wide 5", 30);
+        Due.setAll(x, 0, 2, 6, 8, 10, 14);
+        isRight(x, 2, Due.bits(6, 8));
+        x.take(2);
+        isRight(x, 2, Due.bits(6, 8));
+        x.take(6);
+        isRight(x, 1, Due.bits(8));
+    }
+
+    private static void rightAtTheEnds() {
+        d.says(19, "without whom all others are AT PEACE");
+        NoneSees x = told("wide 5", 0, 4);
+        Due.setAll(x, 0, 0);
+        Due.setAll(x, 1, 1, 6);
+        isRight(x, 1, Due.bits(0));
+        x = told("wide 5", 2, 6);
+        Due.setAll(x, 0, 24);
+        Due.setAll(x, 1, 23, 18);
+        isRight(x, 1, Due.bits(24));
+        x.take(18);
+        isRight(x, 1, Due.bits(23));
     }
 
     // ---- 20
@@ -584,5 +705,32 @@ public final class BoundsWaysTest {
         d.due("none is left for kings", x.game(2), 0);
         d.due("three men can be", x.more(1), Due.bits(5, 7, 8));
         d.due("and are, by turns", x.game(1), 1);
+    }
+
+    private static void gameAtTheEnds() {
+        d.says(20, "whether who begins now can surely win");
+        d.due("the first sees the second", told("wide 5;hole n>1", 0).game(0), 1);
+        d.due("the second sees the first", told("wide 5;hole n>1", 2).game(0), 1);
+        d.due("neither", told("wide 5;hole n>1", 1).game(0), 0);
+        d.due("the last but one sees the last", told("wide 5;hole n<23", 0).game(0), 1);
+        d.due("the last sees the last but one", told("wide 5;hole n<23", 2).game(0), 1);
+        d.due("neither", told("wide 5;hole n<23", 1).game(0), 0);
+        d.due("five rooks' squares", Due.with("wide 3;bar n>4", 10).game(0), 0);
+        d.due("five kings' squares", Due.with("wide 3;bar n=2|n=4|n=6|n=8", 30).game(0), 0);
+        d.due("five kings' squares", Due.with("wide 3;bar n>1&n<6", 30).game(0), 1);
+    }
+
+    private static void gameAnew() {
+        d.says(20, "whether who begins now can surely win");
+        NoneSees x = Due.with("wide 3", 40, 0, 10);
+        for (int i = 0; i < 2; i++) {
+            d.due("queens", x.game(0), 1);
+            d.due("men", x.game(1), 1);
+            d.due("rooks", x.game(2), 1);
+        }
+        Due.yard(x, "wide 2;bar n>1");
+        d.due("two men", x.game(1), 0);
+        d.due("two queens' squares", x.game(0), 1);
+        d.due("two men again", x.game(1), 0);
     }
 }

@@ -15,13 +15,14 @@ import java.util.regex.Pattern;
 public final class LanguageTest {
     private static final Path SOURCE = Path.of("src/main/java/NoneSees.java");
 
-    private static final String FACE = "int plan(int,int);int of(int,int);int row(int,int,int);int feed(int);int yard();"
-        + "int told(int);int set(int,int);int take(int);int at(int,int);int sees(int,int);int clear();int worst();"
+    private static final String FACE = "int plan(int,int);int of(int,int);int row(int,int,int);int feed(int);"
+        + "int yard();int told(int);"
+        + "int set(int,int);int take(int);int at(int,int);int sees(int,int);int clear();int worst();"
         + "int ways(int,int);int after(int,int);int most(int);int hold(int,int);int more(int);int right(int);"
         + "int game(int);int turned(int);int alike();int aim(int);int reach();int see(int,int);int rubbed(int);"
-        + "long odds(int,int);long mean(int);int book(int);int looked();int judge(int,int);int image();int undo();"
-        + "int act(int,int,int);int trace(int);int taken(int,int);int count(int);int tape(int,int,int);"
-        + "int item(int,int,long);long read(int,int);int shift(int,int,int,int,int)";
+        + "long odds(int,int);long mean(int);int book(int);int looked();int judge(int,int);int image();"
+        + "int undo();int act(int,int,int);int trace(int);int taken(int,int);int count(int);"
+        + "int tape(int,int,int);int item(int,int,long);long read(int,int);int shift(int,int,int,int,int)";
 
     private static final String BANNED = "\\b(throw|throws|try|catch|synchronized|assert|native|volatile|transient|"
         + "while \\(true|protected|System\\.(?!arraycopy)\\w+|Random|Thread|var|Exact|hashCode|toString|"

@@ -337,8 +337,8 @@ public final class UnchangedTest {
     // ---- what changes one thing alone
 
     private static void faultTakesTheTextAlone() {
-        d.says(6, "THE TEXT, which is empty then, is a YARD, and holds: its number. FULL: there are 6 (THE TEXT stays); "
-            + "-10 less the FAULT (the one that held holds, MEN stay).");
+        d.says(6, "THE TEXT, which is empty then, is a YARD, and holds: its number. FULL: there are 6 (THE TEXT "
+            + "stays); -10 less the FAULT (the one that held holds, MEN stay).");
         NoneSees x = someWithoutText();
         NoneSees other = someWithoutText();
         d.due("a fault", Due.yard(other, "wide 2;bar n=3|"), -25);
