@@ -1322,20 +1322,24 @@ public final class NoneSees {
 
         /** From row y on; level: all rows before are as those to be behind of. */
         private void goOn(int y, int shut, boolean level) {
-            if (y < 0 || y >= wide || y >= path.length) {
+            if (y < 0 || y >= wide || y >= path.length || y >= behind.length) {
                 return;
             }
             for (int x = level ? behind[y] : 0; x < wide; x++) {
                 int square = y * wide + x;
                 if (isIn(free & ~shut, square) && !(oneIsEnough && found > 0)) {
                     path[y] = x;
-                    boolean stillLevel = level && x == behind[y];
-                    if (y < wide - 1) {
-                        goOn(y + 1, shut | links[square], stillLevel);
-                    } else if (!stillLevel) {
-                        noteWay();
-                    }
+                    goBehind(y, shut | links[square], level && x == behind[y]);
                 }
+            }
+        }
+
+        /** Row y has its man now; level: up to it all rows are as those to be behind of. */
+        private void goBehind(int y, int shut, boolean level) {
+            if (y < wide - 1) {
+                goOn(y + 1, shut, level);
+            } else if (!level) {
+                noteWay();
             }
         }
 
@@ -1496,20 +1500,23 @@ public final class NoneSees {
             int body = bodyOf(owner, act);
             bodies.add(body);
             ran++;
-            int above = ABOVE[owner];
-            int deeper = depth + 1;
+            return answerOf(body, ABOVE[owner], x, depth + 1);
+        }
+
+        /** What a body answers; above: the KIND above the one whose body it is. */
+        private int answerOf(int body, int above, int x, int depth) {
             switch (body) {
                 case 10: return x + number;
-                case 11: return run(kind, LOOKS, x, deeper) - value;
-                case 12: return run(kind, SEES, x, deeper) * 2;
-                case 20: return run(above, SEES, x, deeper) ^ 6;
-                case 30: return run(above, LOOKS, x * 3, deeper);
-                case 40: return run(above, TELLS, x, deeper) + run(kind, SEES, 1, deeper);
-                case 50: return -run(above, LOOKS, x, deeper);
-                case 51: return run(above, SEES, x + 1, deeper);
-                case 60: return run(above, TELLS, x - number, deeper);
-                case 70: return run(above, SEES, x, deeper) + run(above, LOOKS, 2, deeper);
-                case 71: return run(above, LOOKS, x, deeper) ^ value;
+                case 11: return run(kind, LOOKS, x, depth) - value;
+                case 12: return run(kind, SEES, x, depth) * 2;
+                case 20: return run(above, SEES, x, depth) ^ 6;
+                case 30: return run(above, LOOKS, x * 3, depth);
+                case 40: return run(above, TELLS, x, depth) + run(kind, SEES, 1, depth);
+                case 50: return -run(above, LOOKS, x, depth);
+                case 51: return run(above, SEES, x + 1, depth);
+                case 60: return run(above, TELLS, x - number, depth);
+                case 70: return run(above, SEES, x, depth) + run(above, LOOKS, 2, depth);
+                case 71: return run(above, LOOKS, x, depth) ^ value;
                 default: return 0;
             }
         }
