@@ -14,6 +14,7 @@ import java.util.regex.Pattern;
 /** The face as the document has it, and what of LANGUAGE.md can be seen in the source's text. */
 public final class LanguageTest {
     private static final Path SOURCE = Path.of("src/main/java/NoneSees.java");
+    private static final Path DOCUMENT = Path.of("../shared/DOC.md");
 
     private static final String FACE = "int plan(int,int);int of(int,int);int row(int,int,int);int feed(int);"
         + "int yard();int told(int);"
@@ -34,6 +35,7 @@ public final class LanguageTest {
         face();
         String text = Files.readString(SOURCE, StandardCharsets.US_ASCII);
         String code = text.replaceAll("(?s)/\\*.*?\\*/", "").replaceAll("//[^\n]*", "");
+        faceOfDocument(text);
         bannedWords(code);
         methods(code);
         classes();
@@ -91,6 +93,31 @@ public final class LanguageTest {
             due.add(name + " int " + constant);
         }
         is(open.equals(due), "the constants are " + open);
+    }
+
+    /** Each line of the document's face, and what it says ahead of some calls, stands in the source. */
+    private static void faceOfDocument(String text) throws Exception {
+        if (!Files.isReadable(DOCUMENT)) {
+            return;
+        }
+        String document = Files.readString(DOCUMENT, StandardCharsets.UTF_8);
+        Matcher line = Pattern.compile("(?m)^    (public .*);$").matcher(document);
+        int many = 0;
+        while (line.find()) {
+            many++;
+            String head = line.group(1);
+            is(text.contains("\n    " + head + (head.endsWith(")") ? " {\n" : ";\n")), "no such line: " + head);
+        }
+        is(many == 2 + 1 + FACE.split(";").length, many + " lines of the face");
+        Matcher ahead = Pattern.compile("Ahead of the calls `(\\w+)`.* the interface says: (---- .*)\\.\n")
+            .matcher(document);
+        int parts = 0;
+        while (ahead.find()) {
+            parts++;
+            String start = "\n    // " + ahead.group(2) + "\n\n    public \\w+ " + ahead.group(1) + "\\(";
+            is(Pattern.compile(start).matcher(text).find(), "ahead of " + ahead.group(1) + " no " + ahead.group(2));
+        }
+        is(parts == 5, parts + " parts of the face");
     }
 
     private static void bannedWords(String code) {

@@ -10,8 +10,9 @@ import java.util.regex.Pattern;
 import java.util.stream.Stream;
 
 /**
- * What the tests say that they hold: each sentence stands so in the document, where its promise or the Terms do, and
- * each word of the document that names a boundary stands in some sentence that a test holds.
+ * What the tests say that they hold: each sentence stands so in the document, where its promise or the Terms do; each
+ * word of the document that names a boundary stands in some sentence that a test of boundaries holds; and TermsTest and
+ * PromisesTest hold the Terms and the promises whole.
  */
 public final class SentencesTest {
     private static final Path DOCUMENT = Path.of("../shared/DOC.md");
@@ -31,7 +32,11 @@ public final class SentencesTest {
         "\\.\\.|at most|-5|-9\\b|\\bNO\\b|if less|if more|\\bends?\\b|\\bleast\\b|\\bfewest\\b|the first\\b|first 20"
         + "|wrapping|\\bnone\\b|no HOLES?|nothing|below 0|within 4|or less|own square|newest|(?<=-1)[1-4]\\b");
 
-    private record Said(int promise, String sentence) { }
+    private static final Pattern WORD = Pattern.compile("\\S+");
+    /** What stands in the Terms and is not said by them. */
+    private static final Pattern MARKS = Pattern.compile("## Terms|==== \\d|```(?:text)?");
+
+    private record Said(String test, int promise, String sentence) { }
 
     private static int wrong = 0;
 
@@ -45,16 +50,26 @@ public final class SentencesTest {
         try (Stream<Path> tests = Files.list(TESTS)) {
             for (Path test : tests.sorted().toList()) {
                 if (test.toString().endsWith("Test.java") && !test.endsWith("SentencesTest.java")) {
-                    collect(Files.readString(test, StandardCharsets.UTF_8), said);
+                    String name = test.getFileName().toString().replace(".java", "");
+                    collect(name, Files.readString(test, StandardCharsets.UTF_8), said);
                 }
             }
         }
         int ahead = document.indexOf("## Promise 1:");
         String general = document.substring(0, ahead);
+        String terms = section(general, "## Terms", "The constants:");
+        List<Said> parts = said.stream().filter(one -> !isWhole(one)).toList();
+        List<Said> wholes = said.stream().filter(SentencesTest::isWhole).toList();
         for (int promise = 1; promise <= PROMISES; promise++) {
-            lookAtPromise(section(document, promise), general, promise, said);
+            String section = section(document, promise);
+            lookAtPromise(section, general, promise, said);
+            lookFor(IN_PROMISE, section, inPromise(section), heldBy(parts, promise, section), "promise " + promise);
+            lookFor(WORD, section, inPromise(section), heldBy(wholes, promise, section), "promise " + promise);
         }
-        lookAtTerms(section(general, "## Terms", "The constants:"), said);
+        lookFor(IN_TERMS, terms, 0, heldBy(parts, 0, terms), "the Terms");
+        BitSet held = heldBy(wholes, 0, terms);
+        MARKS.matcher(terms).results().forEach(mark -> held.set(mark.start(), mark.end()));
+        lookFor(WORD, terms, 0, held, "the Terms");
         System.out.println(said.size() + " sentences that tests hold, " + wrong + " wrong");
         if (wrong != 0 || said.isEmpty()) {
             System.exit(1);
@@ -79,7 +94,7 @@ public final class SentencesTest {
         return document.substring(start, end);
     }
 
-    private static void collect(String source, List<Said> said) {
+    private static void collect(String test, String source, List<Said> said) {
         Matcher says = SAYS.matcher(source);
         while (says.find()) {
             StringBuilder sentence = new StringBuilder();
@@ -93,7 +108,7 @@ public final class SentencesTest {
                     sentence.append(named.group(2));
                 }
             }
-            said.add(new Said(Integer.parseInt(says.group(1)), sentence.toString()));
+            said.add(new Said(test, Integer.parseInt(says.group(1)), sentence.toString()));
         }
     }
 
@@ -102,13 +117,21 @@ public final class SentencesTest {
         System.out.println(what);
     }
 
+    private static boolean isWhole(Said said) {
+        return said.test().equals("TermsTest") || said.test().equals("PromisesTest");
+    }
+
+    /** Where a promise begins, behind the call's own name and types. */
+    private static int inPromise(String section) {
+        return section.indexOf(")`:") + 3;
+    }
+
     private static void lookAtPromise(String section, String general, int promise, List<Said> said) {
-        BitSet held = new BitSet();
         int many = 0;
         for (Said s : said) {
             if (s.promise() == promise) {
                 many++;
-                boolean here = hold(section, s.sentence(), held);
+                boolean here = hold(section, s.sentence(), new BitSet());
                 if (s.sentence().isEmpty() || !here && !general.contains(s.sentence())) {
                     tell("promise " + promise + " does not say \"" + s.sentence() + "\"");
                 }
@@ -117,17 +140,17 @@ public final class SentencesTest {
         if (many == 0) {
             tell("no test holds a sentence of promise " + promise);
         }
-        // the call's own name and types are not what it promises
-        int words = section.indexOf(")`");
-        lookFor(IN_PROMISE, section, words, held, "promise " + promise);
     }
 
-    private static void lookAtTerms(String terms, List<Said> said) {
+    /** What of a section stands in sentences of this promise; of any promise, if it is 0. */
+    private static BitSet heldBy(List<Said> said, int promise, String section) {
         BitSet held = new BitSet();
         for (Said s : said) {
-            hold(terms, s.sentence(), held);
+            if (promise == 0 || s.promise() == promise) {
+                hold(section, s.sentence(), held);
+            }
         }
-        lookFor(IN_TERMS, terms, 0, held, "the Terms");
+        return held;
     }
 
     /** Marks where the sentence stands; whether it does. */
